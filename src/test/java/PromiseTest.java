@@ -418,6 +418,10 @@ public final class PromiseTest {
     due("of six", x.best(), STATE);
     due("end", x.count(6), 12);
     due("none", new PourPlan().best(), STATE);
+    PourPlan y = site();
+    strip(y, 1, 0, 1);
+    due("of one", y.best(), 3);
+    due("poured", y.about(0, 5), 0);
   }
 
   private static void bestOfEquals() {
@@ -477,6 +481,15 @@ public final class PromiseTest {
     y.ahead(3, 2, 0);
     due("only both together help", y.better(), 0);
     due("end", y.count(6), 4);
+    due("told again", y.ahead(1, 0, 9), 0);
+    due("told again", y.ahead(3, 2, 9), 0);
+    y.order(1, 0);
+    due("day 9 is soon enough for both", y.better(), 0);
+    PourPlan w = site();
+    for (int i = 0; i < 4; i++) strip(w, 1, 0, 1);
+    w.ahead(3, 2, 0);
+    due("the last two", w.better(), 1);
+    due("place of 3", w.about(3, 7), 2);
     PourPlan z = site();
     for (int i = 0; i < 3; i++) strip(z, 1, 0, 1);
     z.ahead(2, 1, 0);
@@ -791,6 +804,16 @@ public final class PromiseTest {
     due("day of 6", x.about(6, 5), 0);
     // Floor 1 loads 11 and 3; floor 2 loads 12, borne by 0, 1, 6 with a third each.
     borneIs(x, 0, 1, 28, 1);
+    PourPlan y = new PourPlan();
+    y.level(1, 0);
+    y.piece(SLAB, 2, 7, 0, 1);
+    y.piece(SLAB, 0, 5, 0, 1);
+    y.plan();
+    y.point(21, 1);
+    due("hardness on 1", y.hard(1, 1), 0);
+    borneIs(y, 1, 1, 5, 1);
+    due("hardness on 2", y.hard(1, 2), 1);
+    borneIs(y, 1, 2, 12, 1);
   }
 
   // ---- promise 24
