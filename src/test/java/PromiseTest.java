@@ -1,4 +1,4 @@
-/** Each promise by itself, with answers reckoned by hand from the document. */
+/** Each promise by itself, with answers reckoned by hand from the document, but for betterTenTimes. */
 public final class PromiseTest {
   private static final int NONE = -1, BAD = -2, STATE = -3, FULL = -4;
   private static final int LOW = Integer.MIN_VALUE, HIGH = Integer.MAX_VALUE;
@@ -502,6 +502,7 @@ public final class PromiseTest {
     due("end", z.count(6), 4);
   }
 
+  // Found by a search with the class, too long to reckon by hand: so the model must answer the same.
   private static void betterTenTimes() {
     checks.begin("15 better, ten times");
     int[] warmth = {16, 1, 33, 6, 3, 24, 22, 36, 13, 35, 23, 23, 21, 16, 27, 29, 29, 27, 36, 22, 22, 39, 29, 36, 15, 30,
@@ -514,6 +515,16 @@ public final class PromiseTest {
     for (int day = 0; day < 40; day++) x.warm(day, warmth[day]);
     for (int[] p : pieces) strip(x, p[0], p[1], p[2]);
     for (int[] a : ahead) x.ahead(a[0], a[1], a[2]);
+    Model m = new Model();
+    m.point(40, 500);
+    for (int day = 0; day < 40; day++) m.warm(day, warmth[day]);
+    for (int[] p : pieces) m.piece(STRIP, 0, p[0], p[1], p[2]);
+    for (int[] a : ahead) m.ahead(a[0], a[1], a[2]);
+    due("plan of the model", m.plan(), 33);
+    due("ten at most, the model", m.better(), 10);
+    due("end of the model", m.count(6), 19);
+    due("an eleventh, the model", m.better(), 1);
+    due("end of the model", m.count(6), 18);
     due("plan", x.plan(), 33);
     due("ten at most", x.better(), 10);
     due("end", x.count(6), 19);
