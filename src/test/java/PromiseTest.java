@@ -49,11 +49,8 @@ public final class PromiseTest {
     checks.due(call, got, want);
   }
 
-  /** 10 thousandths a degree: at 20 degrees a day 200 a day, so bearing after 2 days, stripped after 3. */
   private static PourPlan site() {
-    PourPlan x = new PourPlan();
-    x.point(100, 1000);
-    return x;
+    return Sites.hardening();
   }
 
   private static int strip(PourPlan x, int volume, int size, int faces) {

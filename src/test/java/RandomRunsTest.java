@@ -52,7 +52,7 @@ public final class RandomRunsTest {
     }
     for (int i = 0; i < CALLS; i++) {
       int which = random.nextInt(23);
-      if (which == 0 && x.count(0) >= most && random.nextInt(4) > 0) which = 10;
+      if (which == 0 && m.count(0) >= most && random.nextInt(4) > 0) which = 10;
       if (which == 14 && random.nextInt(4) > 0) which = 10;
       if (which == 8 && random.nextInt(4) > 0) which = 7;
       call(all, which);
@@ -68,7 +68,8 @@ public final class RandomRunsTest {
   }
 
   private void call(Checks all, int which) {
-    int p = any(0, Math.max(0, x.count(0) - 1)), q = any(0, Math.max(0, x.count(0) - 1)), day = any(0, 39);
+    int last = Math.max(0, m.count(0) - 1);
+    int p = any(0, last), q = any(0, last), day = any(0, 39);
     switch (which) {
       case 0 -> addPiece(all);
       case 1 -> both(all, 1, p, q, any(0, 9));
@@ -119,18 +120,21 @@ public final class RandomRunsTest {
     }
   }
 
+  /** With the calls ahead of it at most 512, as many as the document promises for one object. */
   private void lookAtAll(Checks all) {
     for (int what = 0; what < 7; what++) both(all, 22, what, 0, 0);
-    for (int p = 0; p < x.count(0); p++) {
+    for (int p = 0; p < m.count(0); p++) {
       for (int what = 5; what < 8; what++) both(all, 16, p, what, 0);
-      for (int day = 0; day < 40; day += 3) {
+      for (int day = run % 7; day < 40; day += 7) {
         both(all, 17, p, day, 0);
         both(all, 18, p, day, 0);
+      }
+      for (int day = run % 9; day < 40; day += 9) {
         both(all, 21, p, day, 0);
         both(all, 21, p, day, 1);
       }
     }
-    for (int day = 0; day < 40; day += 2) {
+    for (int day = run % 3; day < 40; day += 3) {
       both(all, 20, day, 0, 0);
       for (int size = 0; size < 3; size++) both(all, 19, size, day, 0);
     }
