@@ -31,7 +31,9 @@ public final class EdgesTest {
     nowAndWhatStands();
     planBehindNow();
     bestOfFive();
+    bestOfAllOrders();
     betterByNeighbours();
+    betterTenTimesAtMost();
     boundAlongPieces();
     loadFromPouringToStripping();
     loadOnTwoFloors();
@@ -540,6 +542,29 @@ public final class EdgesTest {
     for (int i = 0; i < 5; i++) due("place of " + i, y.about(i, 7), i);
   }
 
+  /** Each ORDER of up to five pieces once as the only one in which all can be poured on DAY 0. */
+  private static void bestOfAllOrders() {
+    checks.begin("THE BEST of all ORDERS");
+    for (int n = 1; n <= 5; n++) {
+      int found = 0;
+      int codes = 1;
+      for (int i = 0; i < n; i++) codes *= n;
+      for (int code = 0; code < codes; code++) {
+        int[] order = new int[n];
+        int rest = code;
+        for (int i = 0; i < n; i++, rest /= n) order[i] = rest % n;
+        if (java.util.Arrays.stream(order).distinct().count() < n) continue;
+        found++;
+        PourPlan x = Sites.hardening();
+        for (int i = 0; i < n; i++) Sites.strip(x, 1, 1);
+        for (int i = 0; i + 1 < n; i++) x.ahead(order[i], order[i + 1], 0);
+        due("best", x.best(), 3);
+        for (int i = 0; i < n; i++) due("place of " + order[i], x.about(order[i], 7), i);
+      }
+      due("orders of " + n, found, new int[] {1, 1, 2, 6, 24, 120}[n]);
+    }
+  }
+
   private static void betterByNeighbours() {
     checks.begin("TO BETTER");
     PourPlan one = oneStrip();
@@ -566,6 +591,33 @@ public final class EdgesTest {
     for (int i = 0; i < 10; i++) Sites.strip(z, 101, 1);
     due("40 stays 40", z.better(), 0);
     due("END", z.count(6), 40);
+  }
+
+  /**
+   * 0 to 7 follow one another by FORMS, 2 DAYS each; 8 waits for 6 (6 DAYS) and 7 (9 DAYS), and 9 waits 9 DAYS for 8.
+   * With 6 at place p and 7 at place q, END is the greater of 2p + 6 and 2q + 9, and 11 more. The two are never equal,
+   * so one of them alone hinders, and END is less if it comes a place ahead: till 7 is at 0 and 6 at 1, 13 times.
+   */
+  private static void betterTenTimesAtMost() {
+    checks.begin("TO BETTER, 10 times at most");
+    PourPlan x = Sites.hardening();
+    x.level(0, 400);
+    for (int i = 0; i < 8; i++) Sites.strip(x, 1, 9);
+    for (int i = 8; i < 10; i++) x.piece(STRIP, 0, 1, 1, 1);
+    x.ahead(6, 8, 6);
+    x.ahead(7, 8, 9);
+    x.ahead(8, 9, 9);
+    due("7 on 14, 8 on 23, 9 on 32", x.plan(), 34);
+    due("ten changes", x.better(), 10);
+    due("7 is at place 1", x.about(7, 7), 1);
+    due("6 is at place 3", x.about(6, 7), 3);
+    due("END by 6", x.count(6), 23);
+    due("8 on 12", x.about(8, 5), 12);
+    due("the other three", x.better(), 3);
+    due("7 is at place 0", x.about(7, 7), 0);
+    due("6 is at place 1", x.about(6, 7), 1);
+    due("END by 7", x.count(6), 20);
+    due("no more", x.better(), 0);
   }
 
   private static void boundAlongPieces() {
